@@ -1,60 +1,5 @@
 /** A test for each promise of ../shared/DOC.md: ordinary inputs, the edges it names, and wrong inputs. */
-public final class PromisesTest {
-  private static final int NONE = -1000000, BAD = -1000001, STATE = -1000002, FULL = -1000003;
-  private static final int NULL = -1000011, PLACE = -1000012, KIND = -1000013, SIZE = -1000014, STORE = -1000015;
-  private static final int LOWEST = Integer.MIN_VALUE, HIGHEST = Integer.MAX_VALUE;
-
-  /** 0 plain 73 (left column), 1 bold 292 (right column), 2 thin 455, 3 mark 1, 4 dry 511, 5 plain 7 (top line). */
-  private static final String LETTERS =
-      "letter plain 73;letter bold 292;letter thin 455;letter mark 1;letter dry 511;letter plain 7;";
-
-  private static int wrong = 0;
-  private static int promise = 0;
-
-  private static void due(long got, long want, String call) {
-    if (got != want) {
-      wrong++;
-      System.out.println("promise " + promise + ": " + call + " answered " + got + ", due is " + want);
-    }
-  }
-
-  private static void feedText(LightSheets x, String text) {
-    for (int i = 0; i < text.length(); i++) {
-      x.feed(text.charAt(i), 1);
-    }
-  }
-
-  private static int pageOf(LightSheets x, String text) {
-    feedText(x, text);
-    return x.page();
-  }
-
-  private static LightSheets withPage(String text) {
-    LightSheets x = new LightSheets();
-    pageOf(x, text);
-    return x;
-  }
-
-  private static LightSheets withSheet(String sheet) {
-    return withPage("law 4;" + LETTERS + "sheet " + sheet + ";");
-  }
-
-  private static void makeRow(LightSheets x, int row, int... items) {
-    x.row(row, 2, items.length);
-    for (int i = 0; i < items.length; i++) {
-      x.set(row, i, items[i]);
-    }
-  }
-
-  private static void faultAt(String text, int place, int number) {
-    LightSheets x = withSheet("0 / 1");
-    due(pageOf(x, text), -1000100 - place, "page() of " + text);
-    due(x.fault(), number, "fault() of " + text);
-    due(x.count(5), 0, "count(5) after " + text);
-    due(x.count(1), 6, "count(1) after " + text);
-    due(x.at(1, 0), 1, "at(1, 0) after " + text);
-  }
-
+public final class PromisesTest extends Checks {
   private static void newObject() {
     LightSheets x = new LightSheets();
     for (int what = 0; what <= 5; what++) {
@@ -814,13 +759,10 @@ public final class PromisesTest {
   };
 
   public static void main(String[] args) {
-    for (Runnable test : TESTS) {
-      promise++;
-      test.run();
+    for (int i = 0; i < TESTS.length; i++) {
+      says("Promise " + (i + 1));
+      TESTS[i].run();
     }
-    System.out.println(wrong == 0 ? promise + " promises are kept" : wrong + " answers are not as due");
-    if (wrong != 0) {
-      System.exit(1);
-    }
+    end();
   }
 }
